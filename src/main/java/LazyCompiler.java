@@ -83,10 +83,7 @@ public final class LazyCompiler {
     private int linkedCount = 0;
 
     public LazyCompiler() {
-        for (int c = 0; c < CLASSES; c++) {
-            superOf[c] = ABSENT;
-            initialisers[c] = ABSENT;
-        }
+        for (int c = 0; c < CLASSES; c++) initialisers[c] = ABSENT;
         for (int i = 0; i < SLOT_CELLS; i++) ownMethods[i] = ABSENT;
     }
 
@@ -399,15 +396,12 @@ public final class LazyCompiler {
         return h;
     }
 
+    // The height behind an instruction is the one before the next, or, at GIVE and THROW, less than before it.
     private int greatestHeight() {
         int greatest = 0;
         for (int at = 0; at < lengths[DRAFT]; at++) {
-            if (heights[at] == 0) continue;
-            int op = ops[DRAFT_START + at];
-            int before = heightAt(at);
-            int behind = before - pops(op, operands[DRAFT_START + at]) + pushes(op);
-            if (before > greatest) greatest = before;
-            if (behind > greatest) greatest = behind;
+            int height = heights[at] == 0 ? 0 : heightAt(at);
+            if (height > greatest) greatest = height;
         }
         return greatest;
     }
@@ -530,7 +524,6 @@ public final class LazyCompiler {
             steps++;
         }
         done = steps;
-        frames = 0;
         return outcome;
     }
 

@@ -144,6 +144,11 @@ final class HelpPrograms {
     private void call() {
         int m = random.nextInt(8);
         int slot = random.nextInt(4);
+        boolean takes = stack.length() < 4 && list.size() < 18 && random.nextBoolean();
+        for (int i = 0; takes && i < TAKES[m].length(); i++) {
+            if (TAKES[m].charAt(i) == 'I') add(0, someInt(), 0, "I");
+            else add(22, random.nextInt(4), 0, "R");
+        }
         if (ends("RI") && random.nextBoolean()) add(17, slot, 2, slot < 2 ? "I" : "R");
         else if (ends(TAKES[m])) add(16, m, TAKES[m].length(), GIVES.substring(m, m + 1));
         else if (ends("I") && random.nextInt(8) == 0) throwOne();
@@ -189,13 +194,30 @@ final class HelpPrograms {
         to = from + 1 + random.nextInt(n - from);
         goal = n;
         stack = new StringBuilder("I");
-        if (gives == 'R') {
-            popOne();
-            add(22, random.nextInt(4), 0, "R");
-        } else if (random.nextInt(4) == 0) {
-            add(19, 0, 1, "");
+        open = -1;
+        for (int[] i : list) if (i[0] == 3) locals[i[1]] = 'T';
+        int length = n + random.nextInt(23 - n);
+        while (list.size() < length) one();
+        finish(gives);
+        if (random.nextInt(3) == 0) goalFirst();
+    }
+
+    /** What is caught stands before the rest: a GOTO leads over it. */
+    private void goalFirst() {
+        int n = list.size();
+        if (n > 23) return;
+        int moved = n - goal;
+        List<int[]> turned = new ArrayList<>();
+        turned.add(new int[] {8, moved + 1});
+        for (int at = 0; at < n; at++) {
+            int[] i = list.get((goal + at) % n);
+            if (i[0] >= 8 && i[0] <= 10) i[1] = i[1] < goal ? i[1] + moved + 1 : i[1] - goal + 1;
+            turned.add(i);
         }
-        add(18, 0, 0, "");
+        from += moved + 1;
+        to += moved + 1;
+        goal = 1;
+        list = turned;
     }
 
     private void spoil() {

@@ -108,6 +108,9 @@ public final class LookingThroughTest implements HelpOps {
         check.due("place()", 2, x.place());
         check.due("the same height", OK, withCatcher(x, 0, 0, 1, 1, INT, 1, GIVE, 0));
         check.due("a range not reached", OK, withCatcher(x, 0, 2, 3, 0, INT, 1, GIVE, 0, GOTO, 0));
+        check.due("a goal before the range", REFUSED,
+            withCatcher(x, 0, 3, 4, 1, GOTO, 5, POP, 0, ADD, 0, INT, 1, GIVE, 0, GOTO, 3));
+        check.due("place()", 2, x.place());
         check.due("from GIVE", REFUSED, withCatcher(x, 0, 1, 2, 0, INT, 1, GIVE, 0));
         check.due("place()", 0, x.place());
     }
@@ -204,6 +207,9 @@ public final class LookingThroughTest implements HelpOps {
         check.refused(x, 0, 0, LOAD, 0, ZERO, 4, NULL, 0, STORE, 0, GOTO, 0);
         check.refused(x, 0, 2, GOTO, 5, STORE, 0, LOAD, 0, GIVE, 0, GIVE, 0, LOAD, 0, ZERO, 9, INT, 1, GOTO, 1,
             NULL, 0, GOTO, 1);
+        check.refused(x, 2, 3, GOTO, 9, INT, 5, POP, 0, LOAD, 1, POP, 0, NULL, 0, STORE, 1, GOTO, 9, GOTO, 1, GOTO, 8);
+        check.refused(x, 2, 3, GOTO, 9, INT, 5, POP, 0, LOAD, 0, POP, 0, INT, 7, STORE, 0, GOTO, 9, GOTO, 1, GOTO, 8);
+        check.made(x, 2, GOTO, 9, INT, 5, POP, 0, LOAD, 1, POP, 0, INT, 7, STORE, 1, GOTO, 9, GOTO, 1, GOTO, 8);
         check.made(x, 0, LOAD, 0, ZERO, 4, NULL, 0, GOTO, 5, NEW, 0, IS, 0, GIVE, 0);
         check.made(x, 2, INT, 1, STORE, 0, LOAD, 0, GIVE, 0);
         check.refused(x, 2, 3, INT, 1, STORE, 0, LOAD, 0, KEEP, 0, INT, 1, GIVE, 0);

@@ -1,3 +1,4 @@
+import java.util.Arrays;
 import java.util.List;
 import java.util.Random;
 
@@ -8,6 +9,7 @@ public final class ModelTest {
     private static int wrong = 0;
     private static final int[] outcomes = new int[4];
     private static final int[] counted = new int[7];
+    private static final int[] makes = new int[2];
 
     private LazyCompiler x = new LazyCompiler();
     private HelpModel y = new HelpModel();
@@ -71,7 +73,7 @@ public final class ModelTest {
             boolean got = x.catcher(programs.from, programs.to, programs.goal);
             due(call, got, y.catcher(programs.from, programs.to, programs.goal));
         }
-        due("make(" + m + ")", x.make(m), y.make(m));
+        makes[(int) due("make(" + m + ")", x.make(m), y.make(m)) + 1]++;
         due("place()", x.place(), y.place());
         due("body(" + m + ", 1)", x.body(m, 1), y.body(m, 1));
         int at = odd(24), what = odd(2);
@@ -81,6 +83,7 @@ public final class ModelTest {
 
     private void runs() {
         int m = odd(8), g = odd(4), h = odd(4), value = random.nextInt(20) - 5;
+        for (int i = 0; i < 4 && y.body(m, 0) < 0 && random.nextInt(10) != 0; i++) m = odd(8);
         String call = "run(" + m + ", " + g + ", " + h + ", " + value + ")";
         long outcome = due(call, x.run(m, g, h, value), y.run(m, g, h, value));
         outcomes[(int) outcome + 1]++;
@@ -116,8 +119,9 @@ public final class ModelTest {
     public static void main(String[] args) {
         int objects = args.length > 0 ? Integer.parseInt(args[0]) : OBJECTS;
         for (int seed = 0; seed < objects; seed++) new ModelTest(seed).go();
-        System.out.println(calls + " calls, " + wrong + " objects differ; runs refused, ok, thrown, long: "
-            + java.util.Arrays.toString(outcomes) + "; counts: " + java.util.Arrays.toString(counted));
+        System.out.println(calls + " calls, " + wrong + " objects differ; makes refused, ok: " + Arrays.toString(makes)
+            + "; runs refused, ok, thrown, long: " + Arrays.toString(outcomes)
+            + "; counts: " + Arrays.toString(counted));
         if (wrong != 0) System.exit(1);
     }
 }

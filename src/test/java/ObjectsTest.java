@@ -15,6 +15,7 @@ public final class ObjectsTest implements HelpOps {
         collectsWithoutTaken();
         collectsWithoutTop();
         collectsUnderInitialiser();
+        collectsBehindCatcher();
         noRoomAtAll();
         movedTogether();
         readyClasses();
@@ -222,6 +223,20 @@ public final class ObjectsTest implements HelpOps {
         check.gives(x, 6, 0, 0, 0, 0);
         counts(x, 1, 1, 8 + 1);
         check.due("its own int", 6, x.look(3, 1));
+    }
+
+    private static void collectsBehindCatcher() {
+        check.part("promise 18, behind a CATCHER");
+        LazyCompiler x = chains();
+        // Three entries are on the stack when it throws; then one object is, under a call that fills the room.
+        check.draft(x, FETCH, 0, INT, 4, LOAD, 1, INT, 0, DIV, 0, POP, 0, POP, 0, POP, 0, INT, 0, GIVE, 0,
+            POP, 0, NEW, 0, DUP, 0, INT, 6, PUT, 0, INT, 12, CALL, 0, POP, 0, GET, 0, GIVE, 0);
+        check.due("catcher", true, x.catcher(4, 5, 10));
+        check.due("make(3)", OK, x.make(3));
+        check.due("map(3, 10)", 1, x.map(3, 10));
+        check.due("map(3, 15)", 1 + 64, x.map(3, 15));
+        check.gives(x, 3, 0, 0, 1, 6);
+        counts(x, 1, 1, 8);
     }
 
     private static void noRoomAtAll() {
