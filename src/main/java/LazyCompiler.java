@@ -1,3 +1,7 @@
+/**
+ * A machine for objects: methods are looked through when they are made, turned into code and linked when they are first
+ * called, and objects are moved together when there is no room. Its promises stand in ../shared/DOC.md.
+ */
 public final class LazyCompiler {
     public static final int OK = 0, THROWN = 1, LONG = 2, REFUSED = -1;
     public static final long NOTHING = 10000000000L;
@@ -263,7 +267,8 @@ public final class LazyCompiler {
 
     private void unlink(int m) {
         for (int at = 0; at < BODY_CELLS; at++) {
-            if (at / LENGTH == m || operands[at] == m) linked[at] = false;
+            boolean callsIt = ops[at] == CALL && operands[at] == m;
+            if (at / LENGTH == m || callsIt) linked[at] = false;
         }
     }
 

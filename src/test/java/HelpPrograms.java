@@ -31,12 +31,24 @@ final class HelpPrograms {
         locals = (TAKES[m] + "TTTTTT").substring(0, 6).toCharArray();
         open = -1;
         from = to = goal = 0;
+        if (random.nextInt(12) == 0) return anything();
         int length = 1 + random.nextInt(17);
         while (list.size() < length) one();
         finish(GIVES.charAt(m));
         if (random.nextInt(3) == 0) addCatcher(GIVES.charAt(m));
         if (random.nextInt(4) == 0) spoil();
         while (list.size() > 24) list.remove(24);
+        return list;
+    }
+
+    private List<int[]> anything() {
+        int length = 1 + random.nextInt(8);
+        while (list.size() < length) list.add(new int[] {random.nextInt(24), random.nextInt(length)});
+        if (random.nextInt(3) == 0) {
+            to = 1 + random.nextInt(length);
+            from = random.nextInt(to);
+            goal = random.nextInt(length);
+        }
         return list;
     }
 

@@ -109,7 +109,7 @@ public final class LookingThroughTest implements HelpOps {
         check.due("the same height", OK, withCatcher(x, 0, 0, 1, 1, INT, 1, GIVE, 0));
         check.due("a range not reached", OK, withCatcher(x, 0, 2, 3, 0, INT, 1, GIVE, 0, GOTO, 0));
         check.due("a goal before the range", REFUSED,
-            withCatcher(x, 0, 3, 4, 1, GOTO, 5, POP, 0, ADD, 0, INT, 1, GIVE, 0, GOTO, 3));
+            withCatcher(x, 0, 3, 4, 1, GOTO, 4, POP, 0, ADD, 0, GIVE, 0, INT, 1, GOTO, 3));
         check.due("place()", 2, x.place());
         check.due("from GIVE", REFUSED, withCatcher(x, 0, 1, 2, 0, INT, 1, GIVE, 0));
         check.due("place()", 0, x.place());
@@ -240,6 +240,9 @@ public final class LookingThroughTest implements HelpOps {
         check.due("map(2, 4)", 1, x.map(2, 4));
         check.due("on both sides", REFUSED, withCatcher(x, 2, 1, 3, 4, over));
         check.due("place()", 5, x.place());
+        check.due("a goal before the range", REFUSED,
+            withCatcher(x, 0, 4, 5, 1, GOTO, 5, POP, 0, LOAD, 1, GIVE, 0, GIVE, 0, INT, 1, GOTO, 4));
+        check.due("place()", 2, x.place());
         check.due("an INT or a REF", REFUSED, withCatcher(x, 0, 0, 1, 1, NEW, 0, GIVE, 0));
         check.due("place()", 1, x.place());
         check.due("an INT", OK, withCatcher(x, 0, 0, 1, 3, NEW, 0, IS, 0, GIVE, 0, THROW, 0));

@@ -40,6 +40,7 @@ public final class ModelTest {
     }
 
     private int odd(int count) {
+        if (random.nextInt(200) == 0) return random.nextBoolean() ? Integer.MIN_VALUE : Integer.MAX_VALUE;
         return random.nextInt(20) == 0 ? random.nextInt(count + 4) - 2 : random.nextInt(count);
     }
 
