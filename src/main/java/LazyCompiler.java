@@ -1,6 +1,7 @@
 /**
- * A machine for objects: methods are looked through when they are made, turned into code and linked when they are first
- * called, and objects are moved together when there is no room. Its promises stand in ../shared/DOC.md.
+ * A machine for objects: methods are looked through when they are made, and objects are moved together when there is no
+ * room. Its promises stand in ../shared/DOC.md. That a body is code and that a CALL is linked are marks that are counted:
+ * a step reads the instruction itself, since nothing promised would differ with another form of it.
  */
 public final class LazyCompiler {
     public static final int OK = 0, THROWN = 1, LONG = 2, REFUSED = -1;
