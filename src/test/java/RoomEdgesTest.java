@@ -11,12 +11,16 @@ public final class RoomEdgesTest implements HelpOps {
         framesAfterARun();
         objectWords();
         objectsTogether();
+        mostObjects();
+        movedTogether();
+        movedInEachFrame();
         reachedFromGlobals();
         reachedFromLocals();
         reachedFromStack();
         reachedFromCallers();
         reachedFromFields();
         notReachedFromInts();
+        notReachedFromEnded();
         withoutWhatWasTaken();
         takenByInitialiser();
         stillNoRoom();
@@ -210,6 +214,119 @@ public final class RoomEdgesTest implements HelpOps {
         return x;
     }
 
+    private static void mostObjects() {
+        check.part("as many objects as there can be");
+        for (int kept = 0; kept < 4; kept++) {
+            LazyCompiler x = new LazyCompiler();
+            check.due("cls(0, ..)", true, x.cls(0, -1, 0, 0));
+            check.due("cls(1, ..)", true, x.cls(1, -1, 0, 0));
+            dropping(x, 0);
+            draft(NEW, 1, KEEP, kept, INT, 0, GIVE, 0).due(check, x, 1, -1);
+            check.gives(x, 0, 0, 0, 47, 0);
+            check.gives(x, 1, 0, 0, 0, 0);
+            counts(x, 0, 0, 48);
+            check.gives(x, 0, 0, 0, 1, 0);
+            counts(x, 1, 1, 2);
+            check.due("the last one", 1, x.look(kept, 0));
+        }
+        // All 48 stay: 16 with 3 words each, in a chain from one that is made last.
+        LazyCompiler x = pairs();
+        draft(LOAD, 0, ZERO, 14, NEW, 0, DUP, 0, FETCH, 1, PUT, 1, DUP, 0, LOAD, 0, PUT, 0, KEEP, 1, LOAD, 0, INT, 1,
+            SUB, 0, GOTO, 16, LOAD, 0, GIVE, 0, STORE, 0, GOTO, 0).due(check, x, 1, -1);
+        check.gives(x, 1, 0, 0, 16, 0);
+        check.throwsOut(x, 0, 0, 1, 6, 2);
+        counts(x, 1, 16, 48);
+        for (int i = 1; i <= 16; i++) {
+            check.due("its int", i, x.look(1, 1));
+            check.due("go(1, 1)", true, x.go(1, 1));
+        }
+        check.due("the end", LazyCompiler.NOTHING, x.look(1, 0));
+    }
+
+    private static void movedTogether() {
+        check.part("objects are moved together: what refers to them does so still");
+        for (int below = 1; below <= 12; below++) {
+            LazyCompiler x = pairs();
+            check.gives(x, 0, 0, 0, below, 0);
+            // One in a LOCAL, one on the stack, both below a call, and one in a FIELD of each; 16 in all with what is dropped.
+            draft(NEW, 0, STORE, 2, LOAD, 2, INT, 31, PUT, 0, LOAD, 2, NEW, 0, PUT, 1, NEW, 0, DUP, 0, INT, 32, PUT, 0,
+                DUP, 0, LOAD, 2, PUT, 1, LOAD, 1, CALL, 0, POP, 0, DUP, 0, KEEP, 1, LOAD, 2, KEEP, 2, GET, 0, GIVE, 0)
+                .due(check, x, 3, -1);
+            check.gives(x, 3, 0, 0, 16 - 3 - below, 32);
+            counts(x, 0, 0, 48);
+            x = pairs();
+            check.gives(x, 0, 0, 0, below, 0);
+            draft(NEW, 0, STORE, 2, LOAD, 2, INT, 31, PUT, 0, LOAD, 2, NEW, 0, PUT, 1, NEW, 0, DUP, 0, INT, 32, PUT, 0,
+                DUP, 0, LOAD, 2, PUT, 1, LOAD, 1, CALL, 0, POP, 0, DUP, 0, KEEP, 1, LOAD, 2, KEEP, 2, GET, 0, GIVE, 0)
+                .due(check, x, 3, -1);
+            check.gives(x, 3, 0, 0, 16 - 3 - below + 1, 32);
+            counts(x, 1, 3, 12);
+            long[] first = {0, 32, 0}, second = {0, 31, 0};
+            for (int what = 0; what < 3; what++) {
+                check.due("look(1, " + what + ")", first[what], x.look(1, what));
+                check.due("look(2, " + what + ")", second[what], x.look(2, what));
+            }
+            check.due("go(1, 1)", true, x.go(1, 1));
+            check.due("the same one", 31, x.look(1, 1));
+            check.due("go(2, 1)", true, x.go(2, 1));
+            check.due("its int", 0, x.look(2, 1));
+            check.due("its reference", -1, x.look(2, 2));
+        }
+        // Objects of other sizes and classes, with each word of theirs.
+        LazyCompiler x = new LazyCompiler();
+        for (int c = 0; c < 4; c++) check.due("cls(" + c + ", ..)", true, x.cls(c, c - 1, 2, c == 0 ? 0 : 1));
+        for (int c = 0; c < 4; c++) {
+            // 3, 6, 9 and 12 words; before each one of 3 words that is dropped: 42 in all.
+            int last = 3 * c + 1;
+            draft(NEW, 0, POP, 0, NEW, c, DUP, 0, INT, 60 + c, PUT, 16 * c, DUP, 0, INT, 70 + c, PUT, 16 * c + 1, KEEP, c,
+                INT, 0, GIVE, 0).due(check, x, 0, -1);
+            check.gives(x, 0, 0, 0, 0, 0);
+            if (c == 0) continue;
+            draft(FETCH, c, FETCH, c - 1, PUT, 16 * c + last, FETCH, c, INT, 80 + c, PUT, 16 * c + last - 1, INT, 0, GIVE, 0)
+                .due(check, x, 0, -1);
+            check.gives(x, 0, 0, 0, 0, 0);
+        }
+        counts(x, 0, 0, 42);
+        dropping(x, 1);
+        check.gives(x, 0, 0, 0, 2, 0);
+        counts(x, 1, 4, 36);
+        for (int c = 0; c < 4; c++) {
+            check.due("class", c, x.look(c, 0));
+            check.due("first int", 60 + c, x.look(c, 1));
+            check.due("second int", 70 + c, x.look(c, 2));
+            if (c > 0) check.due("last int", 80 + c, x.look(c, 3 * c + 1));
+            if (c > 0) check.due("last reference", c - 1, x.look(c, 3 * c + 2));
+        }
+    }
+
+    /** Method 3 has as many frames as it gets and one more, and calls method 1 then; 5 objects are dropped before. */
+    private static LazyCompiler calledDeep() {
+        LazyCompiler x = pairs();
+        draft(LOAD, 1, ZERO, 8, LOAD, 0, LOAD, 1, INT, 1, SUB, 0, CALL, 3, GIVE, 0, INT, 0, CALL, 1, GIVE, 0)
+            .due(check, x, 3, -1);
+        draft(NEW, 0, DUP, 0, INT, 41, PUT, 0, GIVE, 0).due(check, x, 6, -1);
+        check.gives(x, 0, 0, 0, 5, 0);
+        return x;
+    }
+
+    private static void movedInEachFrame() {
+        check.part("objects are moved together: each LOCAL and entry of each frame that refers to them");
+        for (int deep = 0; deep < 6; deep++) {
+            for (int l = 0; l < 6; l++) {
+                LazyCompiler x = calledDeep();
+                draft(CALL, 6, STORE, l, INT, 20, CALL, 0, POP, 0, LOAD, l, GET, 0, GIVE, 0).due(check, x, 1, -1);
+                check.gives(x, 3, 0, 0, deep, 41);
+                counts(x, 1, 1, 3 + 10 * 3);
+            }
+            for (int k = 0; k < 5; k++) {
+                LazyCompiler x = calledDeep();
+                draft().times(k, INT, 7).add(CALL, 6, INT, 20, CALL, 0, POP, 0, GET, 0, GIVE, 0).due(check, x, 1, -1);
+                check.gives(x, 3, 0, 0, deep, 41);
+                counts(x, 1, 1, 3 + 10 * 3);
+            }
+        }
+    }
+
     private static void reachedFromGlobals() {
         check.part("only those stay that can be reached from GLOBALS");
         for (int g = 0; g < 4; g++) {
@@ -326,6 +443,33 @@ public final class RoomEdgesTest implements HelpOps {
         check.gives(x, 0, 0, 0, 15, 0);
         draft(LOAD, 0, ZERO, 4, NEW, 0, GOTO, 5, INT, 1, NEW, 0, POP, 0, POP, 0, INT, 1, GIVE, 0).due(check, x, 1, -1);
         check.gives(x, 1, 0, 0, 1, 1);
+        counts(x, 1, 0, 3);
+    }
+
+    private static void notReachedFromEnded() {
+        check.part("only from frames: not from those of methods that have ended");
+        for (int by : new int[] {GIVE, THROW}) {
+            LazyCompiler x = pairs();
+            check.gives(x, 0, 0, 0, 13, 0);
+            // Method 1 ends with objects in two LOCALS; the third NEW of method 2, or the one that it calls for, finds no room.
+            draft(NEW, 0, STORE, 1, NEW, 0, STORE, 2, INT, 5, by, 0).due(check, x, 1, -1);
+            draft(INT, 0, CALL, 1, POP, 0, NEW, 0, POP, 0, NEW, 0, IS, 0, GIVE, 0).catcher(1, 2, 2).due(check, x, 2, -1);
+            check.gives(x, 2, 0, 0, 0, 1);
+            counts(x, 1, 0, 3);
+            x = pairs();
+            check.gives(x, 0, 0, 0, 13, 0);
+            draft(NEW, 0, STORE, 1, NEW, 0, STORE, 2, INT, 5, by, 0).due(check, x, 1, -1);
+            draft(INT, 0, CALL, 1, POP, 0, INT, 2, CALL, 0, GIVE, 0).catcher(1, 2, 2).due(check, x, 2, -1);
+            check.gives(x, 2, 0, 0, 0, 0);
+            counts(x, 1, 0, 3);
+        }
+        // Nor from those of a run before, which was LONG.
+        LazyCompiler x = pairs();
+        draft(NEW, 0, STORE, 1, NEW, 0, GOTO, 3).due(check, x, 1, -1);
+        check.due("run", LONG, x.run(1, 0, 0, 0));
+        check.gives(x, 0, 0, 0, 14, 0);
+        counts(x, 0, 0, 48);
+        check.gives(x, 0, 0, 0, 1, 0);
         counts(x, 1, 0, 3);
     }
 
@@ -702,8 +846,19 @@ public final class RoomEdgesTest implements HelpOps {
             check.gives(x, 0, 0, 0, 0, 6);
             check.due("not by a REFUSED make", 7 + (m == 0 || m == 7 ? 1 : 2), x.count(5));
         }
-        // Its own CALL of itself is one, not two.
+        // A CALL that is the first instruction of the first method.
         LazyCompiler x = new LazyCompiler();
+        draft(NULL, 0, GIVE, 0).due(check, x, 6, -1);
+        for (int i = 1; i <= 3; i++) {
+            draft(CALL, 6, POP, 0, INT, 5, GIVE, 0).due(check, x, 0, -1);
+            check.gives(x, 0, 0, 0, 1, 5);
+            check.due("its own", 2 * i - 1, x.count(5));
+            draft(NULL, 0, GIVE, 0).due(check, x, 6, -1);
+            check.gives(x, 0, 0, 0, 1, 5);
+            check.due("of it", 2 * i, x.count(5));
+        }
+        // Its own CALL of itself is one, not two.
+        x = new LazyCompiler();
         for (int i = 1; i <= 3; i++) {
             draft(LOAD, 0, ZERO, 5, INT, 0, CALL, 0, GIVE, 0, INT, 5, GIVE, 0).due(check, x, 0, -1);
             check.gives(x, 0, 0, 0, 1, 5);

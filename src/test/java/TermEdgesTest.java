@@ -19,6 +19,7 @@ public final class TermEdgesTest implements HelpOps {
         otherLocals();
         sixEntries();
         anyInt();
+        nullPushed();
         localsApart();
         wrapping();
         divisors();
@@ -27,9 +28,11 @@ public final class TermEdgesTest implements HelpOps {
         none();
         same();
         newFields();
+        eachField();
         fieldOfNull();
         fieldOfOtherClass();
         is();
+        fourDeep();
         callWithoutBody();
         callWithoutRoom();
         sendToNull();
@@ -42,6 +45,7 @@ public final class TermEdgesTest implements HelpOps {
         thrownInRange();
         thrownWhereCalled();
         stackOfThrown();
+        localsOfThrown();
         check.end();
     }
 
@@ -296,6 +300,22 @@ public final class TermEdgesTest implements HelpOps {
         }
     }
 
+    private static void nullPushed() {
+        check.part("NULL: pushes null");
+        for (int below = 0; below < 6; below++) {
+            LazyCompiler x = new LazyCompiler();
+            int[] locals = {INT, 9, STORE, 0, INT, 9, STORE, 1, INT, 9, STORE, 2, INT, 9, STORE, 3, INT, 9, STORE, 5};
+            x.wipe();
+            for (int i = 0; i < locals.length; i += 2) x.code(locals[i], locals[i + 1]);
+            for (int i = 0; i < below; i++) x.code(INT, 8);
+            int at = 10 + below;
+            int[] end = {NULL, 0, NONE, at + 4, INT, 1, THROW, 0, LOAD, 5, GIVE, 0};
+            for (int i = 0; i < end.length; i += 2) x.code(end[i], end[i + 1]);
+            check.due("make(0)", below < 6 ? OK : REFUSED, x.make(0));
+            check.gives(x, 0, 0, 0, 0, 9);
+        }
+    }
+
     private static void localsApart() {
         check.part("LOAD a: pushes LOCAL a; STORE a: pops into it");
         LazyCompiler x = new LazyCompiler();
@@ -424,6 +444,28 @@ public final class TermEdgesTest implements HelpOps {
         for (int what = 0; what < due.length; what++) check.due("look(3, " + what + ")", due[what], x.look(3, what));
     }
 
+    private static void eachField() {
+        check.part("GET a, PUT a are for FIELD a % 16 of class a / 16");
+        for (int c = 0; c < 4; c++) {
+            LazyCompiler x = withClass(2, 2);
+            for (int k = 1; k < 4; k++) check.due("cls(" + k + ", ..)", true, x.cls(k, k - 1, 2, 2));
+            check.made(x, 6, NEW, c, GIVE, 0);
+            check.gives(x, 6, 0, 0, 0, c);
+            for (int f = 0; f <= 4 * c + 3; f++) {
+                boolean isInt = f % 4 < 2;
+                check.made(x, 3, LOAD, 0, isInt ? LOAD : FETCH, isInt ? 1 : 3, PUT, 16 * c + f, INT, 1, GIVE, 0);
+                check.gives(x, 3, 3, 0, 500 + f, 1);
+            }
+            for (int f = 0; f <= 4 * c + 3; f++) {
+                boolean isInt = f % 4 < 2;
+                check.due("look(3, " + (f + 1) + ")", isInt ? 500 + f : c, x.look(3, f + 1));
+                if (isInt) check.made(x, 3, LOAD, 0, GET, 16 * c + f, GIVE, 0);
+                else check.made(x, 3, LOAD, 0, GET, 16 * c + f, LOAD, 0, SAME, 0, GIVE, 0);
+                check.gives(x, 3, 3, 0, 0, isInt ? 500 + f : 1);
+            }
+        }
+    }
+
     private static void fieldOfNull() {
         check.part("both THROW 2 if that is null");
         LazyCompiler x = withObjects();
@@ -466,6 +508,29 @@ public final class TermEdgesTest implements HelpOps {
             check.due("set(0, -1)", true, x.set(0, -1));
             check.gives(x, 2, 0, 0, 0, 0);
         }
+    }
+
+    private static void fourDeep() {
+        check.part("of class a or one below, as far below as there are classes");
+        int[] order = {2, 0, 3, 1};
+        LazyCompiler x = new LazyCompiler();
+        for (int i = 0; i < 4; i++) check.due("cls", true, x.cls(order[i], i == 0 ? -1 : order[i - 1], 1, 0));
+        for (int low = 0; low < 4; low++) {
+            check.made(x, 6, NEW, order[low], GIVE, 0);
+            check.gives(x, 6, 0, 0, 0, order[low]);
+            for (int high = 0; high < 4; high++) {
+                check.made(x, 2, LOAD, 0, IS, order[high], GIVE, 0);
+                check.gives(x, 2, 3, 0, 0, high <= low ? 1 : 0);
+                check.made(x, 2, LOAD, 0, GET, 16 * order[high] + high, GIVE, 0);
+                if (high <= low) check.gives(x, 2, 3, 0, 0, 0);
+                else check.throwsOut(x, 2, 3, 0, 3, 2 * 32 + 1);
+            }
+        }
+        check.made(x, 3, LOAD, 1, GIVE, 0);
+        check.made(x, 7, LOAD, 0, INT, 17, SEND, 1, GIVE, 0);
+        check.throwsOut(x, 7, 3, 0, 4, 7 * 32 + 2);
+        check.due("slot of the uppermost", true, x.slot(order[0], 1, 3));
+        check.gives(x, 7, 3, 0, 0, 17);
     }
 
     /** Method 0 fills the room with ten frames of 12 words when it gets 9; the last one goes on at instruction 7. */
@@ -518,8 +583,10 @@ public final class TermEdgesTest implements HelpOps {
         filling(x, FETCH, 1, INT, 3, SEND, 0, GIVE, 0);
         check.throwsOut(x, 0, 0, 0, 4, 15);
         check.throwsOut(x, 0, 0, 9, 4, 15);
+        for (int m = 1; m < 8; m++) {
+            if (m != 2) check.made(x, m, m >= 4 && m <= 6 ? NULL : INT, 3, GIVE, 0);
+        }
         check.due("a body, but for no SLOT", true, x.slot(0, 1, 3));
-        check.made(x, 3, LOAD, 1, GIVE, 0);
         check.throwsOut(x, 0, 0, 0, 4, 15);
         check.due("a method above", true, x.slot(0, 0, 3));
         check.gives(x, 0, 0, 0, 0, 3);
@@ -552,6 +619,11 @@ public final class TermEdgesTest implements HelpOps {
             check.gives(x, 0, 0, 0, 0, height);
             check.due("count(0)", height + 1, x.count(0));
         }
+        // What is left on the stack is gone, as often as it may be: the next one begins with nothing.
+        check.made(x, 1, repeated(5, INT, 2, LOAD, 0, GIVE, 0));
+        check.made(x, 0, LOAD, 0, CALL, 1, CALL, 1, CALL, 1, INT, 4, CALL, 1, ADD, 0, GIVE, 0);
+        for (int i = 0; i < 60; i++) check.due("run(0, ..)", OK, x.run(0, 0, 0, i));
+        check.due("result()", 59 + 4, x.result());
     }
 
     private static void anyThrown() {
@@ -670,5 +742,35 @@ public final class TermEdgesTest implements HelpOps {
         check.due("catcher", true, x.catcher(2, 3, 4));
         check.due("not a REF", REFUSED, x.make(0));
         check.due("place()", 4, x.place());
+        // Objects that were below it on the stack are of no use any more; one that is pushed then stays.
+        x = withClass(1, 1);
+        check.made(x, 1, LOAD, 0, ZERO, 9, NEW, 0, POP, 0, LOAD, 0, INT, 1, SUB, 0, STORE, 0, GOTO, 0, LOAD, 0, GIVE, 0);
+        check.draft(x, NEW, 0, NEW, 0, NEW, 0, INT, 7, LOAD, 0, DIV, 0, GIVE, 0, POP, 0, NEW, 0, DUP, 0, INT, 66, PUT, 0,
+            INT, 20, CALL, 1, POP, 0, GET, 0, GIVE, 0);
+        check.due("catcher", true, x.catcher(5, 6, 7));
+        check.due("make(0)", OK, x.make(0));
+        check.gives(x, 0, 0, 0, 0, 66);
+        check.due("COLLECTIONS", 1, x.count(1));
+        check.due("stayed", 1, x.count(2));
+    }
+
+    private static void localsOfThrown() {
+        check.part("it goes on at the CATCHER, with the LOCALS as they were");
+        for (int l = 0; l < 6; l++) {
+            for (int below = 0; below < 4; below++) {
+                LazyCompiler x = new LazyCompiler();
+                x.wipe();
+                for (int k = 0; k < 6; k++) {
+                    x.code(INT, 20 + k);
+                    x.code(STORE, k);
+                }
+                for (int i = 0; i < below; i++) x.code(INT, 8);
+                int[] end = {INT, 77, THROW, 0, LOAD, l, ADD, 0, GIVE, 0};
+                for (int i = 0; i < end.length; i += 2) x.code(end[i], end[i + 1]);
+                check.due("catcher", true, x.catcher(13 + below, 14 + below, 14 + below));
+                check.due("make(0)", OK, x.make(0));
+                check.gives(x, 0, 0, 0, 0, 77 + 20 + l);
+            }
+        }
     }
 }
