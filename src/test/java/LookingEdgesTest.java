@@ -410,15 +410,14 @@ public final class LookingEdgesTest implements HelpOps {
 
     private static void waysBack() {
         check.part("(b) and (c) by ways that lead back, as often as they do");
-        LazyCompiler x = classes();
         // 4 is reached from 7, goes back to 1 and on to 5; what 1 leads to is looked through still.
-        draft(GOTO, 6, INT, 1, ADD, 0, GOTO, 3, ZERO, 1, GOTO, 5, LOAD, 0, GOTO, 4).due(check, x, 0, 2);
-        draft(GOTO, 6, INT, 1, LOAD, 5, GOTO, 3, ZERO, 1, GOTO, 5, LOAD, 0, GOTO, 4).due(check, x, 0, 2);
-        draft(GOTO, 6, INT, 1, LOAD, 0, GOTO, 3, ZERO, 1, GOTO, 5, LOAD, 0, GOTO, 4).due(check, x, 0, -1);
+        draft(GOTO, 6, INT, 1, ADD, 0, GOTO, 3, ZERO, 1, GOTO, 5, LOAD, 0, GOTO, 4).due(check, classes(), 0, 2);
+        draft(GOTO, 6, INT, 1, LOAD, 5, GOTO, 3, ZERO, 1, GOTO, 5, LOAD, 0, GOTO, 4).due(check, classes(), 0, 2);
+        draft(GOTO, 6, INT, 1, LOAD, 0, GOTO, 3, ZERO, 1, GOTO, 5, LOAD, 0, GOTO, 4).due(check, classes(), 0, -1);
         // The same by the CATCHER, which is reached from 4 when that goes on for the first time.
-        draft(GOTO, 6, INT, 1, ADD, 0, ADD, 0, INT, 1, GOTO, 5, INT, 1, GOTO, 4).catcher(4, 5, 1).due(check, x, 0, 3);
-        draft(GOTO, 6, POP, 0, LOAD, 5, GOTO, 3, INT, 1, GOTO, 5, INT, 1, GOTO, 4).catcher(4, 5, 1).due(check, x, 0, 2);
-        draft(GOTO, 6, POP, 0, LOAD, 0, GOTO, 3, INT, 1, GOTO, 5, INT, 1, GOTO, 4).catcher(4, 5, 1).due(check, x, 0, -1);
+        draft(GOTO, 6, INT, 1, ADD, 0, ADD, 0, INT, 1, GOTO, 5, INT, 1, GOTO, 4).catcher(4, 5, 1).due(check, classes(), 0, 3);
+        draft(GOTO, 6, POP, 0, LOAD, 5, GOTO, 3, INT, 1, GOTO, 5, INT, 1, GOTO, 4).catcher(4, 5, 1).due(check, classes(), 0, 2);
+        draft(GOTO, 6, POP, 0, LOAD, 0, GOTO, 3, INT, 1, GOTO, 5, INT, 1, GOTO, 4).catcher(4, 5, 1).due(check, classes(), 0, -1);
         // A ladder: each step goes back to the one before it, so each is reached only after all that are above it.
         for (char kind : new char[] {'I', 'R', 'T'}) {
             for (int l = 1; l < 6; l++) {
@@ -427,7 +426,7 @@ public final class LookingEdgesTest implements HelpOps {
                 if (kind == 'I') d.add(INT, 1, STORE, l, GOTO, 19);
                 else if (kind == 'R') d.add(NULL, 0, STORE, l, GOTO, 19);
                 else d.add(INT, 1, POP, 0, GOTO, 19);
-                d.due(check, x, 0, kind == 'T' ? 4 : -1);
+                d.due(check, classes(), 0, kind == 'T' ? 4 : -1);
             }
         }
         // Two ways come to 15 and go back step by step to 5, the second one three steps behind the first.
@@ -435,14 +434,14 @@ public final class LookingEdgesTest implements HelpOps {
             if (kinds.contains("T")) continue;
             HelpDraft d = draft(LOAD, 0, ZERO, 16).push(kinds.charAt(0)).add(STORE, 3, GOTO, 15, LOAD, 3, GOTO, 6, GOTO, 15,
                 GOTO, 7, GOTO, 8, GOTO, 5, GOTO, 10, GOTO, 11, GOTO, 12, GOTO, 13, GOTO, 14);
-            d.push(kinds.charAt(1)).add(STORE, 3, GOTO, 9).due(check, x, 0, met(kinds) == 'T' ? 5 : -1);
+            d.push(kinds.charAt(1)).add(STORE, 3, GOTO, 9).due(check, classes(), 0, met(kinds) == 'T' ? 5 : -1);
         }
         // LOCAL 2 is a REF at first, LOCAL 3 an INT; one way back changes one of them alone, far from where it is loaded.
         for (int changed = 2; changed < 4; changed++) {
             for (int loaded = 2; loaded < 4; loaded++) {
                 HelpDraft d = draft(NULL, 0, STORE, 2, INT, 1, STORE, 3, GOTO, 14, LOAD, loaded, POP, 0, LOAD, 0, ZERO, 11,
                     GOTO, 14, GOTO, 10, changed == 2 ? INT : NULL, 1, STORE, changed, GOTO, 14);
-                d.add(GOTO, 15, GOTO, 16, GOTO, 17, GOTO, 5).due(check, x, 0, changed == loaded ? 5 : -1);
+                d.add(GOTO, 15, GOTO, 16, GOTO, 17, GOTO, 5).due(check, classes(), 0, changed == loaded ? 5 : -1);
             }
         }
     }
