@@ -261,6 +261,13 @@ public final class LookingEdgesTest implements HelpOps {
         draft(INT, 1, THROW, 0, LOAD, 5).due(check, x, 0, -1);
         draft(GOTO, 2, ADD, 0, GOTO, 2).due(check, x, 0, -1);
         draft(INT, 1, GIVE, 0, ADD, 0, LOAD, 4, GIVE, 0).catcher(2, 4, 0).due(check, x, 0, -1);
+        // One that is not reached is no way to the one behind it: all entries there are what they were.
+        for (Row row : ROWS) {
+            for (int op : new int[] {NULL, INT}) {
+                HelpDraft d = addRow(draft().times(6, op, 1).add(GOTO, 8), row);
+                d.add(op == NULL ? SAME : ADD, 0, GOTO, 9).due(check, classes(), 0, -1);
+            }
+        }
     }
 
     private static void goesOnForEachHeight() {

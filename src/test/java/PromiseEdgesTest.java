@@ -241,6 +241,16 @@ public final class PromiseEdgesTest implements HelpOps {
         check.due("make(0)", OK, x.make(0));
         check.due("body(0, 0)", 24, x.body(0, 0));
         check.gives(x, 0, 0, 0, 0, 46);
+        // Bodies of 24 in all methods: neither they nor the draft have anything of each other.
+        x = new LazyCompiler();
+        for (int m = 0; m < 8; m++) draft().times(23, GOTO, 23).add(GOTO, 23).due(check, x, m, -1);
+        draft(GOTO, 1).due(check, x, 7, 0);
+        draft(GOTO, 0, NEW, 0).due(check, x, 0, 1);
+        for (int m = 0; m < 8; m++) {
+            check.due("body(" + m + ", 0)", 24, x.body(m, 0));
+            check.due("map(" + m + ", 22)", -1, x.map(m, 22));
+            check.due("run(" + m + ", ..)", LONG, x.run(m, 0, 0, 0));
+        }
     }
 
     private static void codeOps() {
