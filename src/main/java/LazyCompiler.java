@@ -1,7 +1,8 @@
 /**
- * A machine for objects: methods are looked through when they are made, and objects are moved together when there is no
- * room. Its promises stand in ../shared/DOC.md. That a body is code and that a CALL is linked are marks that are counted:
- * a step reads the instruction itself, since nothing promised would differ with another form of it.
+ * A machine for objects: methods are looked through when they are made, and turned into code when they are called for
+ * the first time; objects are moved together when there is no room. Its promises stand in ../shared/DOC.md.
+ * Looking through tells the height of the stack at each instruction, so code has no stack: it works on numbered cells of
+ * a frame, first the LOCALS, then the entries of the stack. What runs is code alone, never an instruction.
  */
 public final class LazyCompiler {
     public static final int OK = 0, THROWN = 1, LONG = 2, REFUSED = -1;
@@ -9,12 +10,15 @@ public final class LazyCompiler {
 
     private static final int CLASSES = 4, SLOTS = 4, METHODS = 8, GLOBALS = 4, OWN_FIELDS = 2;
     private static final int LENGTH = 24;
-    private static final int ABSENT = -1;
+    private static final int ABSENT = -1, NOT_THERE = -2;
 
     private static final int INT = 0, NULL = 1, LOAD = 2, STORE = 3, ADD = 4, SUB = 5, DIV = 6, LESS = 7;
     private static final int GOTO = 8, ZERO = 9, NONE = 10, SAME = 11, NEW = 12, GET = 13, PUT = 14, IS = 15;
     private static final int CALL = 16, SEND = 17, GIVE = 18, THROW = 19, DUP = 20, POP = 21, FETCH = 22, KEEP = 23;
     private static final int OPS = 24;
+
+    // Operations that only code has, beside those that bear the number of their instruction. 0, INT, is never code.
+    private static final int NO_CODE = 0, FILL = 24, COPY = 25, SKIP = 26, BRANCH = 27, LINKED = 28;
 
     private static final int BY_ZERO = 1, NO_OBJECT = 2, OTHER_CLASS = 3, NO_METHOD = 4, NO_FRAME = 5, NO_WORDS = 6;
 
@@ -31,15 +35,15 @@ public final class LazyCompiler {
     private static final int PASSES = 1000;
 
     private static final int FRAME_BASE = 9, FRAME_ROOM = 120;
-    // 120 words hold 13 frames of 9 words.
-    private static final int FRAMES = 14, ENTRY_CELLS = FRAMES * ENTRIES;
+    // 120 words hold 13 frames of 9 words; in one more is written what a method takes that finds no room.
+    private static final int FRAMES = 14, FRAME_CELLS = FRAMES * ENTRIES;
     private static final int WORDS = 48, HEAP_CELLS = WORDS + 1;
     private static final int FIELD_STEP = 16;
     private static final int MOST_DONE = 1000;
     private static final int GIVEN = 3;
     private static final int ORIGIN_STEP = 32;
 
-    private final boolean[] classThere = new boolean[CLASSES];
+    // NOT_THERE for classes that are not there.
     private final int[] superOf = new int[CLASSES];
     private final int[] fieldCount = new int[CLASSES];
     private final int[] refFields = new int[CLASSES];
@@ -54,9 +58,13 @@ public final class LazyCompiler {
     private final int[] catchTo = new int[ROWS];
     private final int[] catchGoal = new int[ROWS];
     private final int[] refMaps = new int[BODY_CELLS];
+    private final int[] bodyHeights = new int[BODY_CELLS];
     private final int[] frameWords = new int[METHODS];
-    private final boolean[] turned = new boolean[METHODS];
-    private final boolean[] linked = new boolean[BODY_CELLS];
+
+    // Code stands at the numbers of its instructions, so that places, maps and the CATCHER hold for both.
+    private final int[] codeOps = new int[BODY_CELLS];
+    private final int[] codeCells = new int[BODY_CELLS];
+    private final int[] codeArgs = new int[BODY_CELLS];
 
     // Bit h: the instruction of the draft is reached with height h.
     private final int[] heights = new int[LENGTH];
@@ -73,10 +81,10 @@ public final class LazyCompiler {
 
     private final int[] frameMethod = new int[FRAMES];
     private final int[] framePlace = new int[FRAMES];
-    private final int[] frameHeight = new int[FRAMES];
-    private final int[] entries = new int[ENTRY_CELLS];
+    private final int[] cells = new int[FRAME_CELLS];
     private int frames = 0;
     private int frameWordsUsed = 0;
+    private int wanted = ABSENT;
 
     private int outcome = OK;
     private long lastResult = NOTHING;
@@ -88,19 +96,21 @@ public final class LazyCompiler {
     private int linkedCount = 0;
 
     public LazyCompiler() {
-        for (int c = 0; c < CLASSES; c++) initialisers[c] = ABSENT;
+        for (int c = 0; c < CLASSES; c++) {
+            superOf[c] = NOT_THERE;
+            initialisers[c] = ABSENT;
+        }
         for (int i = 0; i < SLOT_CELLS; i++) ownMethods[i] = ABSENT;
     }
 
     // ---- classes ----
 
     public boolean cls(int c, int up, int ints, int references) {
-        if (c < 0 || c >= CLASSES || classThere[c]) return false;
+        if (c < 0 || c >= CLASSES || isClass(c)) return false;
         if (up != ABSENT && !isClass(up)) return false;
         if (ints < 0 || ints > OWN_FIELDS || references < 0 || references > OWN_FIELDS) return false;
         int above = up == ABSENT ? 0 : fieldCount[up];
         int refsAbove = up == ABSENT ? 0 : refFields[up];
-        classThere[c] = true;
         superOf[c] = up;
         fieldCount[c] = above + ints + references;
         refFields[c] = refsAbove | ((1 << references) - 1) << (above + ints);
@@ -122,7 +132,7 @@ public final class LazyCompiler {
     }
 
     private boolean isClass(int c) {
-        return c >= 0 && c < CLASSES && classThere[c];
+        return c >= 0 && c < CLASSES && superOf[c] != NOT_THERE;
     }
 
     private boolean isField(int c, int f) {
@@ -229,7 +239,8 @@ public final class LazyCompiler {
         faultPlace = kindFault(m);
         if (faultPlace != ABSENT) return REFUSED;
         takeDraft(m);
-        unlink(m);
+        dropCode(m);
+        unlinkCallsOf(m);
         emptyDraft();
         return OK;
     }
@@ -257,19 +268,22 @@ public final class LazyCompiler {
             ops[m * LENGTH + at] = ops[DRAFT_START + at];
             operands[m * LENGTH + at] = operands[DRAFT_START + at];
             refMaps[m * LENGTH + at] = heights[at] == 0 ? ABSENT : refKinds[at];
+            bodyHeights[m * LENGTH + at] = heightAt(at);
         }
         lengths[m] = n;
         catchFrom[m] = catchFrom[DRAFT];
         catchTo[m] = catchTo[DRAFT];
         catchGoal[m] = catchGoal[DRAFT];
         frameWords[m] = FRAME_BASE + greatestHeight();
-        turned[m] = false;
     }
 
-    private void unlink(int m) {
+    private void dropCode(int m) {
+        for (int at = 0; at < LENGTH; at++) codeOps[m * LENGTH + at] = NO_CODE;
+    }
+
+    private void unlinkCallsOf(int m) {
         for (int at = 0; at < BODY_CELLS; at++) {
-            boolean callsIt = ops[at] == CALL && operands[at] == m;
-            if (at / LENGTH == m || callsIt) linked[at] = false;
+            if (codeOps[at] == LINKED && codeArgs[at] == m) codeOps[at] = CALL;
         }
     }
 
@@ -513,6 +527,43 @@ public final class LazyCompiler {
         }
     }
 
+    // ---- turning into code ----
+
+    private boolean isCode(int m) {
+        return codeOps[m * LENGTH] != NO_CODE;
+    }
+
+    private void turnIntoCode(int m) {
+        turnedCount++;
+        int start = m * LENGTH;
+        for (int at = start; at < start + lengths[m]; at++) {
+            // What is never reached has no height, and needs no code.
+            if (refMaps[at] != ABSENT) turnInstruction(at, ops[at], operands[at]);
+        }
+    }
+
+    // The cell of code is where the lowest stands of what the instruction pops, or what it pushes is put.
+    private void turnInstruction(int at, int op, int a) {
+        int lowest = LOCALS + bodyHeights[at] - pops(op, a);
+        switch (op) {
+            case INT: writeCode(at, FILL, lowest, a); break;
+            case NULL: writeCode(at, FILL, lowest, 0); break;
+            case LOAD: writeCode(at, COPY, lowest, a); break;
+            case STORE: writeCode(at, COPY, a, lowest); break;
+            case DUP: writeCode(at, COPY, lowest + 1, lowest); break;
+            case POP: writeCode(at, SKIP, lowest, 0); break;
+            // Null is 0 too, so ZERO and NONE differ in the kind they need alone.
+            case ZERO: case NONE: writeCode(at, BRANCH, lowest, a); break;
+            default: writeCode(at, op, lowest, a); break;
+        }
+    }
+
+    private void writeCode(int at, int op, int cell, int a) {
+        codeOps[at] = op;
+        codeCells[at] = cell;
+        codeArgs[at] = a;
+    }
+
     // ---- running ----
 
     public int run(int m, int g, int h, int x) {
@@ -522,11 +573,12 @@ public final class LazyCompiler {
         outcome = LONG;
         frames = 0;
         frameWordsUsed = 0;
-        enter(m);
         takeFromOutside(m, g, h, x);
+        enterWanted();
         int steps = 0;
         while (steps < MOST_DONE && outcome == LONG) {
             step();
+            if (wanted != ABSENT) enterWanted();
             steps++;
         }
         done = steps;
@@ -535,22 +587,24 @@ public final class LazyCompiler {
 
     private void takeFromOutside(int m, int g, int h, int x) {
         int refs = takesRefs(m);
-        entries[0] = (refs & 1) != 0 ? globals[g] : x;
-        entries[1] = (refs & 2) != 0 ? globals[h] : x;
+        cells[0] = (refs & 1) != 0 ? globals[g] : x;
+        cells[1] = (refs & 2) != 0 ? globals[h] : x;
+        wanted = m;
     }
 
-    private boolean enter(int m) {
-        if (!turned[m]) {
-            turned[m] = true;
-            turnedCount++;
+    // What the wanted method takes stands already where its frame will be.
+    private void enterWanted() {
+        int m = wanted;
+        wanted = ABSENT;
+        if (!isCode(m)) turnIntoCode(m);
+        if (frameWordsUsed + frameWords[m] > FRAME_ROOM) {
+            raise(NO_FRAME);
+            return;
         }
-        if (frameWordsUsed + frameWords[m] > FRAME_ROOM) return false;
         frameWordsUsed += frameWords[m];
         frameMethod[frames] = m;
         framePlace[frames] = 0;
-        frameHeight[frames] = 0;
         frames++;
-        return true;
     }
 
     private void leave() {
@@ -558,105 +612,90 @@ public final class LazyCompiler {
         frameWordsUsed -= frameWords[frameMethod[frames]];
     }
 
-    private void push(int value) {
-        int top = frames - 1;
-        entries[top * ENTRIES + LOCALS + frameHeight[top]] = value;
-        frameHeight[top]++;
-    }
-
-    private int pop() {
-        int top = frames - 1;
-        frameHeight[top]--;
-        return entries[top * ENTRIES + LOCALS + frameHeight[top]];
-    }
-
     private void advance() {
         framePlace[frames - 1]++;
     }
 
+    private int codePlace() {
+        return frameMethod[frames - 1] * LENGTH + framePlace[frames - 1];
+    }
+
     private void step() {
-        int at = frameMethod[frames - 1] * LENGTH + framePlace[frames - 1];
-        int op = ops[at];
-        int a = operands[at];
+        int at = codePlace();
+        int cell = (frames - 1) * ENTRIES + codeCells[at];
+        int op = codeOps[at];
+        int a = codeArgs[at];
         switch (op) {
-            case ADD: case SUB: case DIV: case LESS: calculate(op); break;
-            case GOTO: case ZERO: case NONE: jump(op, a); break;
-            case NEW: makeObject(a); break;
-            case GET: getField(a); break;
-            case PUT: putField(a); break;
-            case CALL: callMethod(at, a); break;
-            case SEND: sendToObject(a); break;
-            case GIVE: giveBack(); break;
-            case THROW: throwAgain(); break;
-            case SAME: case IS: compare(op, a); break;
-            default: moveValue(op, a); break;
+            case ADD: case SUB: case DIV: case LESS: calculate(op, cell); break;
+            case GOTO: goTo(a); break;
+            case BRANCH: branch(cell, a); break;
+            case NEW: makeObject(cell, a); break;
+            case GET: getField(cell, a); break;
+            case PUT: putField(cell, a); break;
+            case CALL: callMethod(at, cell, a); break;
+            case LINKED: handOver(cell, a); break;
+            case SEND: sendToObject(cell, a); break;
+            case GIVE: giveBack(cells[cell]); break;
+            case THROW: raise(cells[cell]); break;
+            case SAME: case IS: compare(op, cell, a); break;
+            default: moveValue(op, cell, a); break;
         }
     }
 
-    private void moveValue(int op, int a) {
-        int local = (frames - 1) * ENTRIES + a;
-        int value = pops(op, a) == 1 ? pop() : 0;
+    private void moveValue(int op, int cell, int a) {
         switch (op) {
-            case INT: push(a); break;
-            case NULL: push(0); break;
-            case LOAD: push(entries[local]); break;
-            case STORE: entries[local] = value; break;
-            case DUP: push(value); push(value); break;
-            case FETCH: push(globals[a]); break;
-            case KEEP: globals[a] = value; break;
+            case FILL: cells[cell] = a; break;
+            case COPY: cells[cell] = cells[(frames - 1) * ENTRIES + a]; break;
+            case FETCH: cells[cell] = globals[a]; break;
+            case KEEP: globals[a] = cells[cell]; break;
             default: break;
         }
         advance();
     }
 
-    private void calculate(int op) {
-        int y = pop();
-        int x = pop();
+    private void calculate(int op, int cell) {
+        int x = cells[cell];
+        int y = cells[cell + 1];
         if (op == DIV && y == 0) {
             raise(BY_ZERO);
             return;
         }
         switch (op) {
-            case ADD: push(x + y); break;
-            case SUB: push(x - y); break;
-            case DIV: push(x / y); break;
-            default: push(x < y ? 1 : 0); break;
+            case ADD: cells[cell] = x + y; break;
+            case SUB: cells[cell] = x - y; break;
+            case DIV: cells[cell] = x / y; break;
+            default: cells[cell] = x < y ? 1 : 0; break;
         }
         advance();
     }
 
-    private void compare(int op, int a) {
-        int r = pop();
-        boolean holds;
-        if (op == SAME) {
-            int other = pop();
-            holds = r == other;
-        } else {
-            holds = r != 0 && isBelow(heap[r], a);
-        }
-        push(holds ? 1 : 0);
+    private void compare(int op, int cell, int a) {
+        int r = cells[cell];
+        boolean holds = op == SAME ? r == cells[cell + 1] : r != 0 && isBelow(heap[r], a);
+        cells[cell] = holds ? 1 : 0;
         advance();
     }
 
-    private void jump(int op, int a) {
-        // Null is 0 too, so ZERO and NONE differ in the kind they need alone.
-        int value = op == GOTO ? 0 : pop();
-        if (value == 0) framePlace[frames - 1] = a;
+    private void goTo(int place) {
+        framePlace[frames - 1] = place;
+    }
+
+    private void branch(int cell, int place) {
+        if (cells[cell] == 0) goTo(place);
         else advance();
     }
 
-    private void getField(int a) {
-        int r = pop();
+    private void getField(int cell, int a) {
+        int r = cells[cell];
         if (refusesField(r, a / FIELD_STEP)) return;
-        push(heap[r + 1 + a % FIELD_STEP]);
+        cells[cell] = heap[r + 1 + a % FIELD_STEP];
         advance();
     }
 
-    private void putField(int a) {
-        int value = pop();
-        int r = pop();
+    private void putField(int cell, int a) {
+        int r = cells[cell];
         if (refusesField(r, a / FIELD_STEP)) return;
-        heap[r + 1 + a % FIELD_STEP] = value;
+        heap[r + 1 + a % FIELD_STEP] = cells[cell + 1];
         advance();
     }
 
@@ -672,55 +711,44 @@ public final class LazyCompiler {
         return false;
     }
 
-    private void callMethod(int at, int m) {
+    private void callMethod(int at, int cell, int m) {
         if (!hasBody(m)) {
             raise(NO_METHOD);
             return;
         }
-        if (!linked[at]) {
-            linked[at] = true;
-            linkedCount++;
-        }
-        handOver(m);
+        codeOps[at] = LINKED;
+        linkedCount++;
+        handOver(cell, m);
     }
 
-    private void sendToObject(int slot) {
-        int top = frames - 1;
-        int r = entries[top * ENTRIES + LOCALS + frameHeight[top] - 2];
+    private void sendToObject(int cell, int slot) {
+        int r = cells[cell];
         if (r == 0) {
             raise(NO_OBJECT);
             return;
         }
         int m = methodFor(heap[r], slot);
-        if (hasBody(m)) handOver(m);
+        if (hasBody(m)) handOver(cell, m);
         else raise(NO_METHOD);
     }
 
-    // The caller's height is lowered first: what the other method took is no longer a root of the caller.
-    private void handOver(int m) {
-        int caller = frames - 1;
+    private void handOver(int cell, int m) {
         int taken = takes(m);
-        frameHeight[caller] -= taken;
-        if (!enter(m)) {
-            raise(NO_FRAME);
-            return;
-        }
-        int from = caller * ENTRIES + LOCALS + frameHeight[caller];
-        for (int i = 0; i < taken; i++) entries[(caller + 1) * ENTRIES + i] = entries[from + i];
+        for (int i = 0; i < taken; i++) cells[frames * ENTRIES + i] = cells[cell + i];
+        wanted = m;
     }
 
-    private void giveBack() {
-        int value = pop();
+    private void giveBack(int value) {
         int m = frameMethod[frames - 1];
         leave();
         if (frames == 0) {
             endWith(m, value);
             return;
         }
-        int at = frameMethod[frames - 1] * LENGTH + framePlace[frames - 1];
+        int at = codePlace();
         // A caller that stands at NEW has called an initialiser, and does that NEW once more.
-        if (ops[at] == NEW) return;
-        push(value);
+        if (codeOps[at] == NEW) return;
+        cells[(frames - 1) * ENTRIES + codeCells[at]] = value;
         advance();
     }
 
@@ -737,18 +765,12 @@ public final class LazyCompiler {
         return r == 0 ? ABSENT : heap[r];
     }
 
-    private void throwAgain() {
-        int thrown = pop();
-        raise(thrown);
-    }
-
     private void raise(int thrown) {
         int from = frameMethod[frames - 1] * ORIGIN_STEP + framePlace[frames - 1];
         for (int top = frames - 1; top >= 0; top--) {
             int m = frameMethod[top];
             if (isCaught(m, framePlace[top])) {
-                frameHeight[top] = 0;
-                push(thrown);
+                cells[top * ENTRIES + LOCALS] = thrown;
                 framePlace[top] = catchGoal[m];
                 return;
             }
@@ -761,7 +783,7 @@ public final class LazyCompiler {
 
     // ---- objects ----
 
-    private void makeObject(int c) {
+    private void makeObject(int cell, int c) {
         int waiting = readyUntilInitialiser(c);
         if (waiting != ABSENT) {
             initialise(waiting);
@@ -775,7 +797,7 @@ public final class LazyCompiler {
         }
         heap[heapEnd] = c;
         for (int f = 1; f < words; f++) heap[heapEnd + f] = 0;
-        push(heapEnd);
+        cells[cell] = heapEnd;
         heapEnd += words;
         advance();
     }
@@ -795,8 +817,8 @@ public final class LazyCompiler {
     }
 
     private void initialise(int c) {
-        if (enter(initialisers[c])) entries[(frames - 1) * ENTRIES] = c;
-        else raise(NO_FRAME);
+        cells[frames * ENTRIES] = c;
+        wanted = initialisers[c];
     }
 
     private void collect() {
@@ -813,9 +835,10 @@ public final class LazyCompiler {
         return 1 + fieldCount[heap[r]];
     }
 
+    // From the cell of its code on a frame has what another method took from it, which is no root of it any more.
     private int rootsOf(int frame) {
-        int refs = refMaps[frameMethod[frame] * LENGTH + framePlace[frame]];
-        return refs & (1 << LOCALS + frameHeight[frame]) - 1;
+        int at = frameMethod[frame] * LENGTH + framePlace[frame];
+        return refMaps[at] & (1 << codeCells[at]) - 1;
     }
 
     private void markRoots() {
@@ -823,7 +846,7 @@ public final class LazyCompiler {
         for (int frame = 0; frame < frames; frame++) {
             int refs = rootsOf(frame);
             for (int i = 0; i < ENTRIES; i++) {
-                if ((refs >> i & 1) != 0) newPlaces[entries[frame * ENTRIES + i]] = 1;
+                if ((refs >> i & 1) != 0) newPlaces[cells[frame * ENTRIES + i]] = 1;
             }
         }
     }
@@ -873,8 +896,8 @@ public final class LazyCompiler {
         for (int frame = 0; frame < frames; frame++) {
             int refs = rootsOf(frame);
             for (int i = 0; i < ENTRIES; i++) {
-                int entry = frame * ENTRIES + i;
-                if ((refs >> i & 1) != 0) entries[entry] = newPlaces[entries[entry]];
+                int cell = frame * ENTRIES + i;
+                if ((refs >> i & 1) != 0) cells[cell] = newPlaces[cells[cell]];
             }
         }
     }
