@@ -112,6 +112,7 @@ public final class CodeTest implements HelpOps {
         check.made(x, 2, NULL, 0, NULL, 0, CALL, 7, GIVE, 0);
         check.made(x, 7, INT, 9, GIVE, 0, NULL, 0);
         check.made(x, 3, LOAD, 1, GIVE, 0);
+        check.made(x, 6, NULL, 0, DUP, 0, POP, 0, GIVE, 0);
         check.due("run(0, 4, 0, 1)", LazyCompiler.REFUSED, x.run(0, 4, 0, 1));
         for (int m = 0; m < 8; m++) noCode(x, m);
         check.gives(x, 0, 0, 0, 1, 9);
@@ -122,6 +123,10 @@ public final class CodeTest implements HelpOps {
         hasCode(x, 7, 2);
         noCode(x, 3);
         check.due("count(4)", 4, x.count(4));
+        noCode(x, 6);
+        check.gives(x, 6, 0, 0, 0, -1);
+        hasCode(x, 6, 4);
+        check.due("count(4)", 5, x.count(4));
     }
 
     private static void turnedThoughNoRoom() throws Exception {
